@@ -7,7 +7,6 @@ public final class AreaMap {
     private static final int PAGES = 64;
     private static final int MOST_AREAS = 20;
     private static final int MOST_RIGHTS = 7;
-    private static final int MOST_TAG = 15;
     private static final int MOST_KIND = 127;
     private static final int RIGHTS_BITS = 3;
 
@@ -153,10 +152,7 @@ public final class AreaMap {
     }
 
     public int nextWith(int tag, int page) {
-        // A free page's number has the tag bits of -1, so a wrong tag must not come to the search.
-        if (tag < 0 || tag > MOST_TAG) {
-            return NONE;
-        }
+        // A tag that is not 0 .. 15 needs no test of its own: no mapped page bears it.
         for (int at = page < 0 ? 0 : page; at < PAGES; at++) {
             if (kinds[at] != FREE && tagIn(kinds[at]) == tag) {
                 return at;

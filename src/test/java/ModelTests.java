@@ -4,7 +4,7 @@ import java.util.List;
 
 /** Long runs of calls, the same each time, held against a plain model that is written another way. */
 public final class ModelTests {
-    private static final int RUNS = 3000;
+    private static final int RUNS = 1000;
     private static final int CALLS = 512;
     private static final int MOST_REPORTS = 20;
 
