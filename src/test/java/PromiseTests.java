@@ -202,10 +202,10 @@ public final class PromiseTests {
         due("place(59, 2, 9), growing the last", x.place(59, 2, 9), 59);
         due("place(1, 1, 9), joining two", x.place(1, 1, 9), 2);
         due("areas()", x.areas(), 19);
-        due("place(62, 1, 9), the twentieth", x.place(62, 1, 9), 62);
+        due("place(62, 1, 8), the twentieth", x.place(62, 1, 8), 62);
         due("areas()", x.areas(), 20);
         before = pages(x);
-        due("place(0, 1, 8), refused though page 61 would do with kind 9", x.place(0, 1, 8), FULL);
+        due("place(0, 1, 8), refused at page 5 though page 61 would do", x.place(0, 1, 8), FULL);
         same("place with FULL", x, before);
     }
 
